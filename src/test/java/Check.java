@@ -46,12 +46,13 @@ final class Check {
         return x.text();
     }
 
-    /** A new object with what a text tells. */
+    /** A new object with what a text tells; each item comes alone, so the text may be long. */
     static IronCall from(String text) {
         IronCall x = new IronCall();
-        int items = text(x, text);
-        if (items < 0) {
-            throw new IllegalArgumentException(text + ": " + items);
+        for (String item : text.split(";")) {
+            if (text(x, item) != 1) {
+                throw new IllegalArgumentException(item);
+            }
         }
         return x;
     }
