@@ -760,6 +760,7 @@ public final class IronCall {
             }
         }
 
+        /** Company, how many others are there and not taken, counts for a crown alone. */
         int feels(int loud, int far, int company) {
             int asThing = Math.max(loud - far, 0);
             int asSword = 2 * asThing + (far <= 3 ? 3 : 0);
@@ -968,8 +969,12 @@ public final class IronCall {
             if (t == null) {
                 return 0;
             }
+            int far = Math.abs(t.cell - from);
+            if (t.kind != CROWN) {
+                return t.feels(loud, far, 0);
+            }
             int others = thingsAt(t.cell) & ~(1 << t.number);
-            return t.feels(loud, Math.abs(t.cell - from), Integer.bitCount(others));
+            return t.feels(loud, far, Integer.bitCount(others));
         }
 
         /** From how many cells a thing would feel so much or more. */

@@ -99,10 +99,26 @@ public final class AheadTest {
         check.due("never", x.meet(1, 3), Check.NONE);
         x.change(1, 5, 1);
         check.due("taken or not", x.meet(1, 0), 3);
+        meetLate("loud 1; needle at 4 heavy 34 pulled 1; bed at 7 held", 200);
+        meetLate("loud 0; sword at 6 heavy 93; bed at 9 held", 200);
+        meetLate("loud 1; needle at 3 heavy 34; bed at 6 held", 201);
+        meetLate("loud 0; sword at 6 heavy 94 pulled 2; bed at 9 held", 201);
         int[][] wrong = {{0, 0}, {3, 3}, {-1, 0}, {0, -1}, {4, 0}, {0, 4}, {4, 4}};
         for (int[] w : wrong) {
             check.due("meet " + w[0] + " " + w[1], x.meet(w[0], w[1]), Check.BEYOND);
         }
+    }
+
+    /** Told up to 200 calls ahead, and gone to here. */
+    private static void meetLate(String street, int n) {
+        IronCall x = Check.from(street);
+        check.due("meet " + street, x.meet(0, 1), n <= 200 ? n : Check.NONE);
+        check.due("when " + street, x.when(0, x.of(1, 1)), n <= 200 ? n : Check.NONE);
+        for (int i = 0; i < n; i++) {
+            check.due(i + " " + street, x.of(0, 1) == x.of(1, 1) ? 1 : 0, 0);
+            x.go(1);
+        }
+        check.due(n + " " + street, x.of(0, 1), x.of(1, 1));
     }
 
     private static void strained() {

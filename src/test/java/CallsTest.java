@@ -163,6 +163,12 @@ public final class CallsTest {
         check.due("too many", x.go(40), Check.STATE);
         check.due("none was made", x.now(0), 99960);
         check.due("outside comes first", x.go(61), Check.BEYOND);
+        x.image();
+        check.due("20 drawn", x.calls(20), 0);
+        check.due("20 drawn: too many", x.calls(20), Check.STATE);
+        check.due("19 drawn: just enough", x.calls(19), 0);
+        check.due("last call, drawn", x.now(0), 99999);
+        x.undo();
         check.due("just enough", x.go(39), 0);
         check.due("last call", x.now(0), 99999);
         check.due("drawn", x.calls(1), Check.STATE);

@@ -5,6 +5,7 @@ public final class ImagesTest {
     public static void main(String[] args) {
         undo();
         kept();
+        madeSince();
         tapeAndSheetsStay();
         latest();
         tear();
@@ -67,6 +68,31 @@ public final class ImagesTest {
         x.go(1);
         check.due("undo again", x.undo(), 7);
         same(x, y);
+    }
+
+    /** Things made since are no more, in what is told of all, and the next is a new one. */
+    private static void madeSince() {
+        IronCall x = new IronCall();
+        x.image();
+        x.thing(6, 3);
+        int[] other = {6, 3, 99, 998, 1, 1, 77};
+        for (int what = 0; what < 7; what++) {
+            x.change(0, what, other[what]);
+        }
+        check.due("undo", x.undo(), 0);
+        int[] now = {0, 0, 0, 0, 0, -1, 0, 0};
+        for (int what = 0; what < 8; what++) {
+            check.due("now " + what, x.now(what), now[what]);
+        }
+        for (int what = 0; what < 5; what++) {
+            check.due("count " + what, x.count(what), 0);
+        }
+        check.due("who", x.who(3), 0);
+        check.due("a new one", x.thing(1, 2), 0);
+        int[] fresh = {1, 2, 10, 0, 0, 0, 0};
+        for (int what = 0; what < 7; what++) {
+            check.due("fresh " + what, x.of(0, what), fresh[what]);
+        }
     }
 
     private static void same(IronCall x, IronCall y) {

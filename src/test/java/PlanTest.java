@@ -123,6 +123,7 @@ public final class PlanTest {
         x.change(0, 2, 99);
         x.change(0, 5, 1);
         check.due("taken", x.layFor(0, 60), 0);
+        check.due("8 off on the other side", Check.from("cart 7 pace 0; loud 20; iron").layFor(0, 8), 15);
     }
 
     private static void kindFor() {
@@ -136,6 +137,8 @@ public final class PlanTest {
         x.set(3, 11);
         // A THING feels 3, rests 1: it moves first behind its third call. IRON feels 6.
         check.due("IRON moves at once, a SWORD twice", x.kindFor(1, 1), 3);
+        IronCall y = Check.from("cart 8 pace 0; loud 0; thing heavy 1; bed");
+        check.due("a CROWN feels its company", y.kindFor(0, 1), 6);
     }
 
     private static void heavyFor() {
@@ -149,6 +152,8 @@ public final class PlanTest {
         check.due("IRON from afar", x.heavyFor(4, 2), 13);
         x.change(2, 5, 1);
         check.due("taken already", x.heavyFor(2, 0), Check.NONE);
+        check.due("just 99", Check.from("cart 4 pace 0; thing at 5 pulled 91").heavyFor(0, 1), 99);
+        check.due("not even 99", Check.from("cart 4 pace 0; thing at 5 pulled 92").heavyFor(0, 1), Check.NONE);
         IronCall y = Check.from("cart 4 pace 0; crown at 4 heavy 9 pulled 9");
         check.due("a CROWN that is pulled less than 5", y.heavyFor(0, 1), 7);
     }

@@ -94,6 +94,12 @@ public final class TextsTest {
         fault("beds", 0);
         fault("be", 0);
         fault("thin g", 0);
+        fault("bedz", 0);
+        fault("bzd", 0);
+        fault("zed", 0);
+        fault("ged", 0);
+        fault("beda", 0);
+        fault("loudz 3", 0);
         fault("Bed", 0);
         fault("beD", 0);
         fault("bed at", 6);
@@ -226,6 +232,12 @@ public final class TextsTest {
         cartIs(x, 1, 1, 2, 3);
         check.due("the new one", x.of(1, 1), 5);
         check.due("spot", x.as(3, 4), 0);
+        check.due("fault behind a thing", Check.text(x, "crown at 5 heavy 7 pulled 9 held; zzz"), -35);
+        check.due("another thing", Check.text(x, "bed"), 1);
+        int[] fresh = {4, 0, 10, 0, 0, 0, 0};
+        for (int what = 0; what < 7; what++) {
+            check.due("fresh " + what, x.of(2, what), fresh[what]);
+        }
     }
 
     private static void tooManyThings() {
