@@ -141,9 +141,17 @@ public final class ImagesEdgeTest extends Edge {
     }
 
     static void promise38_thingsMadeSinceAreNoMore() {
+        madeSinceAreNoMore(0);
+    }
+
+    static void promise38_thingsTakenSinceAreNoMore() {
+        madeSinceAreNoMore(1);
+    }
+
+    private static void madeSinceAreNoMore(int taken) {
         IronCall x = full();
         for (int i = 0; i < 8; i++) {
-            int[] most = {0, 3, 99, 999, 1, i % 2, 9999};
+            int[] most = {0, 3, 99, 999, 1, taken, 9999};
             for (int what = 0; what < 7; what++) {
                 x.change(i, what, most[what]);
             }
