@@ -65,6 +65,15 @@ public final class AheadEdgeTest extends Edge {
         tells(street, 0, x -> x.ahead(0, 3, 100) - 200 + x.ahead(0, 3, 0));
     }
 
+    static void promise10_nothingChanges() {
+        for (int what = 1; what <= 6; what++) {
+            int asked = what;
+            if (what != 2 && what != 4) {
+                tells(Edge::turning, turning().ahead(1, asked, 9), x -> x.ahead(1, asked, 9));
+            }
+        }
+    }
+
     // ---- promise 11: where
 
     static void promise11_nTooSmall() {
@@ -101,6 +110,10 @@ public final class AheadEdgeTest extends Edge {
     static void promise11_askedAgain() {
         tells(Edge::fresh, 20, x -> x.where(100) + x.where(100));
         tells(Edge::fresh, 11, x -> x.where(100) + x.where(1));
+    }
+
+    static void promise11_nothingChanges() {
+        tells(Edge::turning, turning().where(9), x -> x.where(9));
     }
 
     // ---- promise 12: taken
@@ -157,6 +170,10 @@ public final class AheadEdgeTest extends Edge {
 
     static void promise12_askedAgain() {
         tells(() -> Check.from(AT_200), 400, x -> x.taken(0) + x.taken(0));
+    }
+
+    static void promise12_nothingChanges() {
+        tells(Edge::turning, turning().taken(1), x -> x.taken(1));
     }
 
     // ---- promise 13: when
@@ -217,6 +234,10 @@ public final class AheadEdgeTest extends Edge {
 
     static void promise13_askedAgain() {
         tells(() -> Check.from(AT_200), 400, x -> x.when(0, 3) + x.when(0, 3));
+    }
+
+    static void promise13_nothingChanges() {
+        tells(Edge::turning, turning().when(1, 4), x -> x.when(1, 4));
     }
 
     // ---- promise 14: meet
@@ -297,6 +318,10 @@ public final class AheadEdgeTest extends Edge {
         tells(() -> Check.from(AT_200), 400, x -> x.meet(0, 1) + x.meet(0, 1));
     }
 
+    static void promise14_nothingChanges() {
+        tells(Edge::turning, turning().meet(1, 3), x -> x.meet(1, 3));
+    }
+
     // ---- promise 15: strained
 
     /** It is PULLED by so much each call. */
@@ -367,5 +392,9 @@ public final class AheadEdgeTest extends Edge {
 
     static void promise15_askedAgain() {
         tells(() -> needle(4, 0), 400, x -> x.strained(0, 800) + x.strained(0, 800));
+    }
+
+    static void promise15_nothingChanges() {
+        tells(Edge::turning, turning().strained(2, 55), x -> x.strained(2, 55));
     }
 }

@@ -110,6 +110,13 @@ public final class DrawsEdgeTest extends Edge {
         due(x.count(0), 99999);
         due(x.count(6), z);
         due(x.calls(0), BEYOND);
+        IronCall y = CallsEdgeTest.late();
+        y.go(20);
+        due(y.calls(20), STATE);
+        due(y.count(0), 99980);
+        due(y.count(6), 1);
+        due(y.calls(19), 0);
+        due(y.count(0), 99999);
     }
 
     // ---- promise 25: odds

@@ -49,7 +49,7 @@ abstract class Edge {
         }
         System.out.println(methods.size() + " cases, " + answers + " answers, " + wrong + " of them wrong");
         if (wrong > 0 || methods.isEmpty()) {
-            System.exit(1);
+            throw new AssertionError(wrong + " wrong of " + answers);
         }
     }
 
@@ -200,6 +200,14 @@ abstract class Edge {
         Check.fill(x, 2, 32, 31);
         Check.feed(x, "loud 3; bed at 3");
         x.who(16);
+        return x;
+    }
+
+    /** The cart stands at an end with a WAY that nothing but a CALL may turn. */
+    static IronCall turning() {
+        IronCall x = lived();
+        x.set(0, 0);
+        x.set(1, 0);
         return x;
     }
 

@@ -19,9 +19,18 @@ public final class ImagesEdgeTest extends Edge {
         IronCall x = lived();
         IronCall twin = lived();
         due(x.image(), 1);
-        twin.image();
-        due(x.image(), 1);
+        due(x.tear(), 1);
+        due(twin.tear(), 1);
         same(x, twin);
+    }
+
+    static void promise37_theTapeStays() {
+        IronCall x = lived();
+        int bytes = x.count(5);
+        due(bytes > 0 ? 1 : 0, 1);
+        due(x.image(), 1);
+        due(x.count(5), bytes);
+        due(x.text(), 2);
     }
 
     static void promise37_ofAnEmptyStreet() {

@@ -97,9 +97,22 @@ public final class PlanEdgeTest extends Edge {
         tells(() -> Check.from("cart 9 pace 0; loud 0; thing heavy 8; thing at 15 heavy 9"), 15, x -> x.startFor(1));
     }
 
+    /** On its WAY to lesser CELLS it comes to 15 in one CALL from nowhere. */
+    static void promise17_noCellBeyond15() {
+        tells(() -> Check.from("cart 9 back; loud 0; thing at 15 heavy 99"), 0, x -> x.startFor(1));
+    }
+
     static void promise17_ofSeveralTheLeast() {
         tells(() -> Check.from("cart 9 pace 0; loud 0; thing at 7 heavy 9; thing at 3 heavy 9"), 3, x -> x.startFor(1));
         tells(() -> Check.from("cart 9; bed; bed at 4"), 0, x -> x.startFor(60));
+    }
+
+    static void promise17_takenNowToo() {
+        // What is TAKEN now adds the same wherever the cart begins.
+        IronCall x = Check.from("cart 9 pace 0; loud 0; thing at 7 heavy 9; bed at 3 heavy 50");
+        x.change(1, 5, 1);
+        due(x.startFor(0), 0);
+        due(x.startFor(1), 7);
     }
 
     static void promise17_noThings() {
@@ -361,7 +374,7 @@ public final class PlanEdgeTest extends Edge {
 
     static void promise21_fewestAheadOfLeast() {
         // Two beds of numbers 0 and 1 HELD would do, and so does the crown, number 2, alone.
-        tells(() -> Check.from("cart 4 pace 0; bed at 5 heavy 9; bed at 5 heavy 9; crown at 4 heavy 99 pulled 3"), 4,
+        tells(() -> Check.from("cart 4 pace 0; bed at 5 heavy 9; bed at 5 heavy 9; crown at 4 heavy 99 pulled 2"), 4,
                 x -> x.holdFast(1));
     }
 
@@ -369,6 +382,13 @@ public final class PlanEdgeTest extends Edge {
         // Either bed HELD keeps the crown below 5.
         tells(() -> Check.from("cart 4 pace 0; bed at 5 heavy 9; bed at 5 heavy 9; crown at 4 heavy 99 pulled 1"), 1,
                 x -> x.holdFast(1));
+    }
+
+    static void promise21_thingMadeJustNow() {
+        IronCall x = Check.from("cart 4 pace 0; bed at 3");
+        due(x.holdFast(1), 0);
+        x.thing(0, 4);
+        due(x.holdFast(1), 2);
     }
 
     static void promise21_neverNone() {

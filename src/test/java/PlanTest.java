@@ -173,8 +173,10 @@ public final class PlanTest {
         // The crown feels 2, and 1 for each bed that comes to its cell: 5 with both.
         IronCall y = Check.from("cart 4 pace 0; bed at 5 heavy 9; bed at 5 heavy 9; crown at 4 heavy 99 pulled 1");
         check.due("a bed held keeps the crown", y.holdFast(1), 1);
-        y.change(2, 3, 3);
+        y.change(2, 3, 2);
         check.due("two beds or the crown", y.holdFast(1), 4);
+        y.change(2, 4, 1);
+        check.due("the crown is held already", y.holdFast(1), 0);
         IronCall z = new IronCall();
         for (int i = 0; i < 8; i++) {
             z.thing(0, 4);

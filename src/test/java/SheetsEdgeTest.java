@@ -52,6 +52,16 @@ public final class SheetsEdgeTest extends Edge {
         tells(Edge::fresh, 1, x -> x.hold(0, -1));
     }
 
+    static void promise30_nothingElseChanges() {
+        IronCall x = lived();
+        IronCall twin = lived();
+        due(x.of(4, 4), 0);
+        due(x.hold(0, 4), 1);
+        due(x.of(4, 4), 0);
+        due(x.hold(0, -1), 1);
+        same(x, twin);
+    }
+
     static void promise30_nothingAgain() {
         tells(1, x -> x.hold(0, -1));
     }

@@ -27,6 +27,48 @@ public final class TermsEdgeTest extends Edge {
         due(x.status(-1), 0);
     }
 
+    static void findings_changeNothing() {
+        refused(Edge::turning, BEYOND, x -> x.who(16));
+        refused(Edge::turning, KIND, x -> x.as(9, 2));
+        refused(Edge::turning, NONE, x -> x.taken(2));
+        refused(Edge::turning, MISSING, x -> x.load(3));
+        refused(Edge::turning, SIZE, x -> x.sheet(0, 8, -1));
+    }
+
+    /** What is asked of thing 1. */
+    private static Act[] ofThing1() {
+        return new Act[] {x -> x.of(1, 0), x -> x.change(1, 1, 5), x -> x.ahead(1, 1, 0), x -> x.ahead(1, 6, 3),
+            x -> x.taken(1), x -> x.when(1, 5), x -> x.meet(1, 0), x -> x.meet(0, 1), x -> x.strained(1, 0),
+            x -> x.loudFor(1, 60), x -> x.layFor(1, 1), x -> x.kindFor(1, 1), x -> x.heavyFor(1, 0), x -> x.fits(0, 1),
+            x -> x.kinds(0, 1), x -> x.odds(1, 1, 1, 0), x -> x.hold(0, 1)};
+    }
+
+    static void findings_noneOfAThingMadeJustNow() {
+        for (Act act : ofThing1()) {
+            IronCall x = Check.from("bed at 5");
+            x.sheet(0, 8, 1);
+            x.where(3);
+            x.thing(0, 5);
+            due(act.on(x) >= 0 ? 1 : 0, 1);
+            due(x.status(-1), 0);
+        }
+    }
+
+    static void findings_beyondForAThingTakenBack() {
+        Street takenBack = () -> {
+            IronCall x = Check.from("bed at 5");
+            x.sheet(0, 8, 1);
+            x.image();
+            x.thing(0, 5);
+            x.where(3);
+            x.undo();
+            return x;
+        };
+        for (Act act : ofThing1()) {
+            refused(takenBack, BEYOND, act);
+        }
+    }
+
     static void findings_zIsNone() {
         IronCall x = new IronCall();
         int[] numbers = {-1000000, -1000001, -1000002, -1000003, -1000004, -1000005, -1000006, -1000007, -1000008};
@@ -161,6 +203,8 @@ public final class TermsEdgeTest extends Edge {
     static void terms1_swordLikedFromMoved5() {
         liked(3, 99, 0, 5, 1);
         liked(3, 99, 0, 4, 0);
+        liked(3, 99, 0, 6, 1);
+        liked(3, 99, 0, 9999, 1);
     }
 
     static void terms1_crownLikedFromPulled5() {

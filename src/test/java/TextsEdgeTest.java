@@ -292,6 +292,17 @@ public final class TextsEdgeTest extends Edge {
         faulty("bed held 1", 9);
     }
 
+    static void terms3_numberWhereAWordIsDue() {
+        for (int n = 0; n <= 30; n++) {
+            faulty(n + " 3", 0);
+            faulty("bed " + n, 4);
+            faulty("bed " + n + " 3", 4);
+            faulty("cart 3 " + n, 7);
+            faulty("cart 3 " + n + " 2", 7);
+            faulty("bed; " + n + " 3", 5);
+        }
+    }
+
     static void terms3_thingEndsTooEarly() {
         faulty("bed at", 6);
         faulty("bed at ", 7);
@@ -526,6 +537,21 @@ public final class TextsEdgeTest extends Edge {
     static void promise29_faultChangesNothing() {
         faulty("loud 3; cart 1; gold at 5; crown held; zzz", 39);
         tells(Edge::fresh, -1 - 39, x -> Check.text(x, "loud 3; cart 1; gold at 5; crown held; zzz"));
+        Street withoutTape = () -> {
+            IronCall x = lived();
+            x.wipe();
+            return x;
+        };
+        tells(withoutTape, -1 - 39, x -> Check.text(x, "loud 3; cart 1; gold at 5; crown held; zzz"));
+    }
+
+    static void promise29_faultLeavesTheImage() {
+        IronCall x = lived();
+        x.wipe();
+        due(Check.text(x, "zzz"), -1);
+        due(x.undo(), 3);
+        due(x.text(), -1);
+        due(x.undo(), 3);
     }
 
     static void promise29_faultIsNoFinding() {

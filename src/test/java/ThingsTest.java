@@ -10,6 +10,7 @@ public final class ThingsTest {
         feels();
         steps();
         liked();
+        likedAsItIs();
         rests();
         ofOutside();
         changes();
@@ -172,6 +173,13 @@ public final class ThingsTest {
             check.due("liked " + d[0] + " heavy " + d[1] + " pulled " + d[2] + " moved " + d[3],
                     x.of(0, 9), d[4]);
         }
+    }
+
+    private static void likedAsItIs() {
+        IronCall x = Check.from("iron at 4 held; gold at 5");
+        x.change(1, 5, 1);
+        check.due("liked, held or not", x.of(0, 9), 1);
+        check.due("liked, taken or not", x.of(1, 9), 1);
     }
 
     private static void rests() {
